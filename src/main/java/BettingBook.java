@@ -56,6 +56,8 @@ public final class BettingBook {
     private final Odds odds;
     private final Gains gains;
     private final Winner winner;
+    /** What each MEMBER HAS, and for each set of MEMBERS the most groups in it, while settle() works. */
+    private final int[] owed;
     private final int[] groups;
 
     public BettingBook() {
@@ -72,6 +74,7 @@ public final class BettingBook {
         odds = new Odds();
         gains = new Gains();
         winner = new Winner();
+        owed = new int[MEMBERS_MOST];
         groups = new int[1 << MEMBERS_MOST];
         table.fill(club);
         table.mark(ledger);
@@ -321,16 +324,21 @@ public final class BettingBook {
 
     public int settle() {
         int members = club.members;
+        for (int member = 0; member < members; member++) {
+            set(owed, member, hasNow(member));
+        }
         int all = (1 << members) - 1;
         set(groups, 0, 0);
         for (int some = 1; some <= all; some++) {
+            int together = 0;
             int most = 0;
             for (int member = 0; member < members; member++) {
                 if ((some >> member & 1) != 0) {
+                    together += at(owed, member);
                     most = Math.max(most, at(groups, some & ~(1 << member)));
                 }
             }
-            set(groups, some, haveTogether(some) == 0 ? most + 1 : most);
+            set(groups, some, together == 0 ? most + 1 : most);
         }
         // Who HAS nothing is a group alone, so that all less all groups is what SETTLE asks for.
         return members - at(groups, all);
@@ -456,16 +464,6 @@ public final class BettingBook {
     private int hasNow(int member) {
         gains.ofMember(club, ledger, member);
         return at(ledger.balance, member) + gains.sum(table.certain);
-    }
-
-    private int haveTogether(int some) {
-        int coin = 0;
-        for (int member = 0; member < club.members; member++) {
-            if ((some >> member & 1) != 0) {
-                coin += hasNow(member);
-            }
-        }
-        return coin;
     }
 
     private static int at(int[] row, int place) {
@@ -714,8 +712,8 @@ public final class BettingBook {
         }
 
         private boolean tellRule(boolean brings) {
-            int first = takeThing(NONE);
-            int second = first < 0 ? NONE : takeThing(first);
+            int first = tokens.takeTold(club.thingNames, club.things, NONE);
+            int second = first < 0 ? NONE : tokens.takeTold(club.thingNames, club.things, first);
             if (second < 0) {
                 return false;
             }
@@ -731,13 +729,13 @@ public final class BettingBook {
         }
 
         private boolean tellBet() {
-            int one = takeMember(NONE);
+            int one = tokens.takeTold(club.memberNames, club.members, NONE);
             int coin = one < 0 ? NONE : tokens.takeNumber(1, COIN_MOST);
             if (coin < 0 || !tokens.take(Word.TO)) {
                 return false;
             }
             int otherCoin = tokens.takeNumber(1, COIN_MOST);
-            int other = otherCoin < 0 ? NONE : takeMember(one);
+            int other = otherCoin < 0 ? NONE : tokens.takeTold(club.memberNames, club.members, one);
             if (other < 0 || !tokens.take(Word.THAT)) {
                 return false;
             }
@@ -801,7 +799,7 @@ public final class BettingBook {
         }
 
         private Claim ofThing() {
-            int thing = takeThing(NONE);
+            int thing = tokens.takeTold(club.thingNames, club.things, NONE);
             if (thing < 0) {
                 return null;
             }
@@ -812,16 +810,8 @@ public final class BettingBook {
                 int day = tokens.takeNumber(0, LAST_DAY);
                 return day < 0 ? null : Claim.of(Claim.BY, thing, day);
             }
-            int other = tokens.take(Word.BEFORE) ? takeThing(thing) : NONE;
+            int other = tokens.take(Word.BEFORE) ? tokens.takeTold(club.thingNames, club.things, thing) : NONE;
             return other < 0 ? null : Claim.of(Claim.BEFORE, thing, other);
-        }
-
-        private int takeThing(int otherThan) {
-            return tokens.takeTold(club.thingNames, club.things, otherThan);
-        }
-
-        private int takeMember(int otherThan) {
-            return tokens.takeTold(club.memberNames, club.members, otherThan);
         }
     }
 
@@ -1220,7 +1210,7 @@ public final class BettingBook {
 
         /** Joins the classes that differ in one THING alone, behind the table: false, if some are unlike. */
         private boolean dropThing(int offset, int length, int step) {
-            int blocks = length / (RADIX * step);
+            int blocks = step > 0 ? length / (RADIX * step) : 0;
             for (int block = 0; block < blocks; block++) {
                 for (int low = 0; low < step; low++) {
                     int joined = 0;

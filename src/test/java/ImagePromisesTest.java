@@ -109,8 +109,8 @@ final class ImagePromisesTest {
 
     /** No call throws, and none such is none such, for the greatest and the least numbers. */
     private static void wildNumbers() {
-        int[] wild = {Integer.MIN_VALUE, Integer.MIN_VALUE + 1, -1000000, -3, 13, 100000, 1 << 30, Integer.MAX_VALUE - 1,
-            Integer.MAX_VALUE};
+        int[] wild = {Integer.MIN_VALUE, Integer.MIN_VALUE + 1, -1000000, -3, 13, 100000, 1 << 30,
+            Integer.MAX_VALUE - 1, Integer.MAX_VALUE};
         BettingBook told = Texts.book(TEXT);
         for (BettingBook book : new BettingBook[] {told, new BettingBook()}) {
             for (int n : wild) {

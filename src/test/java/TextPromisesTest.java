@@ -128,6 +128,11 @@ final class TextPromisesTest {
     private static void faultsOfNames() {
         DUE.is("eight letters", Texts.fault("thing abcdefgh;"), -1);
         DUE.is("nine letters", Texts.fault("thing abcdefghi;"), 6);
+        DUE.is("a and z", Texts.fault("thing az;member za;"), -1);
+        DUE.is("the byte ahead of a", Texts.fault("thing a`;"), 7);
+        DUE.is("the byte behind z", Texts.fault("thing z{;"), 7);
+        DUE.is("the byte ahead of 0", Texts.fault("thing a from 1/;"), 14);
+        DUE.is("the byte behind 9", Texts.fault("thing a from 1:;"), 14);
         DUE.is("a word", Texts.fault("thing least;"), 6);
         DUE.is("a word's part", Texts.fault("thing leas;"), -1);
         DUE.is("a longer word", Texts.fault("thing leasts;"), -1);
@@ -220,6 +225,11 @@ final class TextPromisesTest {
                 .replace("comes (", "comes or (") + ";"), -1);
         DUE.is("nine not beside nine not",
             Texts.fault(bet + "not ".repeat(9) + "r comes and " + "not ".repeat(9) + "s comes;"), -1);
+        String nine = "not ".repeat(9) + "r comes";
+        DUE.is("nine in each claim", Texts.fault(bet + nine + " off " + nine + " double " + nine + ";"), -1);
+        String least = "least 0 by 0";
+        DUE.is("ten in off", Texts.fault(bet + least + " off not " + nine + ";"), start + 12 + 5 + 36);
+        DUE.is("ten in double", Texts.fault(bet + least + " double not " + nine + ";"), start + 12 + 8 + 36);
         DUE.is("ten not behind an or",
             Texts.fault(bet + "(r comes or " + "not ".repeat(9) + "s comes);"), start + 12 + 32);
     }

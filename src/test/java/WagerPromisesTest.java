@@ -237,7 +237,8 @@ final class WagerPromisesTest {
         DUE.is("pays(0, -1)", book.pays(0, -1), NO_COIN);
         DUE.is("pays(1, 0)", book.pays(1, 0), NO_COIN);
         DUE.is("pays(-1, 0)", book.pays(-1, 0), NO_COIN);
-        BettingBook barred = Texts.book(TWO_THINGS + "thing c from 3;bars a b;bet x 999 to 1 y that b by 3 double a by 0;");
+        BettingBook barred = Texts.book(TWO_THINGS + "thing c from 3;bars a b;"
+            + "bet x 999 to 1 y that b by 3 double a by 0;");
         DUE.is("pays in a row not possible", barred.pays(0, 1 + 9 * 5), -1998);
         DUE.is("pays in no row", barred.pays(0, 81), NO_COIN);
     }
@@ -354,7 +355,8 @@ final class WagerPromisesTest {
         book.day(1);
         book.come(0);
         DUE.is("latest(0), it came", book.latest(0), 1);
-        BettingBook two = Texts.book(TWO_THINGS + "bars a b;bet x 1 to 1 y that b comes;bet x 1 to 1 y that least 0 by 0;");
+        BettingBook two = Texts.book(TWO_THINGS + "bars a b;bet x 1 to 1 y that b comes;"
+            + "bet x 1 to 1 y that least 0 by 0;");
         DUE.is("open to the end", two.latest(0), 7);
         DUE.is("decided from the beginning", two.latest(1), 0);
         two.day(2);
@@ -393,12 +395,16 @@ final class WagerPromisesTest {
         BettingBook fewest = Texts.book(three + "brings a c in 0;brings c a in 0;brings b c in 0;brings c b in 0;"
             + "bet x 1 to 1 y that a by 2 and b by 2;");
         DUE.is("one alone", fewest.hang(0), 1);
+        BettingBook unlike = Texts.book("thing a until 2;thing b from 1 until 3;thing c from 1 until 2;"
+            + "member x;member y;bars c b;brings a c in 1;bars b c;brings a b in 0;brings c a in 1;bet x 1 to 1 y that c by 1;");
+        DUE.is("c alone, though a and b have less bits", unlike.hang(0), 4);
     }
 
     private static void same() {
         String bet = "bet x 1 to 1 y that ";
         BettingBook book = Texts.book(TWO_THINGS + "brings a b in 0;" + bet + "a by 1;" + bet + "a by 2;"
-            + bet + "not not a by 1;bet x 1 to 2 y that a by 1;" + bet + "a by 1 or a before b;bet y 1 to 1 x that a by 1;");
+            + bet + "not not a by 1;bet x 1 to 2 y that a by 1;" + bet + "a by 1 or a before b;"
+            + "bet y 1 to 1 x that a by 1;");
         DUE.is("with itself", book.same(0, 0), -1);
         DUE.is("told otherwise", book.same(0, 2), -1);
         DUE.is("they part on day 2, with b ahead", book.same(0, 1), 3 + 9);
