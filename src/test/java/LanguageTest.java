@@ -37,7 +37,8 @@ final class LanguageTest {
         DUE.is("signs above 127", source.chars().filter(sign -> sign > 127).count(), 0);
         String[] banned = {"\\bthrow\\b", "\\bthrows\\b", "\\btry\\b", "\\bcatch\\b", "\\bsynchronized\\b",
             "\\bassert\\b", "->", "::", "Exact\\s*\\(", "\\bSystem\\.(?!arraycopy)", "\\bObject\\b", "\\bRandom\\b",
-            "\\bThread\\b", "\\bhashCode\\b", "\\btoString\\b(?!\\(\\))", "\\bprotected\\b", "\\bpackage\\b", "\\bstatic\\s*\\{",
+            "\\bThread\\b", "\\bhashCode\\b", "\\btoString\\b(?!\\(\\))", "\\bprotected\\b", "\\bpackage\\b",
+            "\\bstatic\\s*\\{",
             "\\bjava\\.(?!util\\.(Arrays|ArrayList|List);)", "\\bvar\\b", "\\bNaN\\b"};
         for (String word : banned) {
             Matcher matcher = Pattern.compile(word).matcher(code);

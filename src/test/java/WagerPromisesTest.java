@@ -396,7 +396,8 @@ final class WagerPromisesTest {
             + "bet x 1 to 1 y that a by 2 and b by 2;");
         DUE.is("one alone", fewest.hang(0), 1);
         BettingBook unlike = Texts.book("thing a until 2;thing b from 1 until 3;thing c from 1 until 2;"
-            + "member x;member y;bars c b;brings a c in 1;bars b c;brings a b in 0;brings c a in 1;bet x 1 to 1 y that c by 1;");
+            + "member x;member y;bars c b;brings a c in 1;bars b c;brings a b in 0;brings c a in 1;"
+            + "bet x 1 to 1 y that c by 1;");
         DUE.is("c alone, though a and b have less bits", unlike.hang(0), 4);
     }
 
