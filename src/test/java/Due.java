@@ -1,14 +1,20 @@
 /** Counts and prints the answers that are not as due. */
 final class Due {
+    private String heading = "";
     private int wrong;
     private int asked;
+
+    /** What the answers from now on belong to. */
+    void under(String name) {
+        heading = name + ": ";
+    }
 
     void is(String call, long got, long due) {
         asked++;
         if (got != due) {
             wrong++;
             if (wrong <= 50) {
-                System.out.println(call + " answered " + got + ", due is " + due);
+                System.out.println(heading + call + " answered " + got + ", due is " + due);
             }
         }
     }
@@ -19,6 +25,10 @@ final class Due {
 
     int wrong() {
         return wrong;
+    }
+
+    int asked() {
+        return asked;
     }
 
     /** Ends the program: with exit code 1, if an answer was not as due. */
