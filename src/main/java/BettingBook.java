@@ -778,18 +778,22 @@ public final class BettingBook {
         }
 
         private Claim one(int open) {
-            if (open >= OPEN_MOST && (tokens.isNext(Word.NOT) || tokens.isNext('('))) {
+            int nots = 0;
+            while (open + nots < OPEN_MOST && tokens.take(Word.NOT)) {
+                nots++;
+            }
+            int within = open + nots;
+            if (within >= OPEN_MOST && (tokens.isNext(Word.NOT) || tokens.isNext('('))) {
                 return null;
             }
-            if (tokens.take(Word.NOT)) {
-                Claim claim = one(open + 1);
-                return claim == null ? null : Claim.over(Claim.NOT, claim);
+            Claim claim = null;
+            if (!tokens.take('(')) {
+                claim = tokens.take(Word.LEAST) ? least() : ofThing();
+            } else {
+                Claim any = any(within + 1);
+                claim = any != null && tokens.take(')') ? any : null;
             }
-            if (tokens.take('(')) {
-                Claim claim = any(open + 1);
-                return claim != null && tokens.take(')') ? claim : null;
-            }
-            return tokens.take(Word.LEAST) ? least() : ofThing();
+            return claim != null && nots % 2 != 0 ? Claim.over(Claim.NOT, claim) : claim;
         }
 
         private Claim least() {
@@ -1017,7 +1021,7 @@ public final class BettingBook {
             return new Claim(kind, 0, 0, parts);
         }
 
-        static boolean isTrue(Claim claim, int[] digits, int depth) {
+        private static boolean isTrue(Claim claim, int[] digits, int depth) {
             if (claim == null || depth > DEPTH_MOST) {
                 return false;
             }
@@ -1184,17 +1188,17 @@ public final class BettingBook {
                 long cell = cellAt(code);
                 setClass(code, (cell & LEFT) == 0 ? 0 : outcomeBits(cell, w));
             }
-            return fewestThings(0, size, 0, (1 << things) - 1);
+            return fewestThings(this, 0, size, 0, (1 << things) - 1);
         }
 
         /** Of the THINGS kept and what is left of them without some from this one on: the fewest that tell all. */
-        private int fewestThings(int offset, int length, int from, int kept) {
+        private static int fewestThings(RowTable table, int offset, int length, int from, int kept) {
             int fewest = kept;
-            int dropped = things - Integer.bitCount(kept);
-            for (int thing = from; thing < things && thing < THINGS_MOST; thing++) {
-                if (dropThing(offset, length, power(RADIX, thing - dropped))) {
-                    int found = fewestThings(offset + length, length / RADIX, thing + 1, kept & ~(1 << thing));
-                    fewest = fewer(fewest, found);
+            int dropped = table.things - Integer.bitCount(kept);
+            for (int thing = from; thing < table.things && thing < THINGS_MOST; thing++) {
+                if (table.dropThing(offset, length, power(RADIX, thing - dropped))) {
+                    int rest = kept & ~(1 << thing);
+                    fewest = fewer(fewest, fewestThings(table, offset + length, length / RADIX, thing + 1, rest));
                 }
             }
             return fewest;

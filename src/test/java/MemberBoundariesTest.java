@@ -74,6 +74,18 @@ final class MemberBoundariesTest {
         due.is("who holds none", book.has(1), 0);
     }
 
+    static void promise21_farAboveAMillion(Due due) {
+        BettingBook book = Texts.book(THREE);
+        for (int i = 0; i < 160; i++) {
+            book.paid(0, 1, 9999);
+        }
+        due.is("has(0)", book.has(0), 160 * 9999);
+        due.is("has(1)", book.has(1), -160 * 9999);
+        due.is("has(2)", book.has(2), 0);
+        due.is("settle()", book.settle(), 1);
+        due.is("best(1)", book.best(1), 1);
+    }
+
     // Promise 22: may
 
     static void promise22_noneSuch(Due due) {
@@ -171,6 +183,16 @@ final class MemberBoundariesTest {
         due.is("never", book.end(0, 0), -2 - 2 + 3);
         due.is("on DAY 5", book.end(0, 6), -2 + 3 + 3);
         due.is("on DAY 3", book.end(0, 4), 9);
+    }
+
+    static void promise23_allTwelve(Due due) {
+        String last = "bet x 500 to 700 y that r by 3 off r by 0 double r by 1 or r comes and not r by 6;";
+        BettingBook book = Texts.book(THREE + (EVEN + "r comes;").repeat(11) + last);
+        int[] coins = {-11 - 500, 11, 11 + 1400, 11 + 700, 11 + 700, 11 - 500, 11 - 500, 11 - 500, 11 - 1000};
+        for (int code = 0; code < coins.length; code++) {
+            due.is("end(0, " + code + ")", book.end(0, code), coins[code]);
+            due.is("end(1, " + code + ")", book.end(1, code), -coins[code]);
+        }
     }
 
     static void promise23_withWhatIsOwed(Due due) {
@@ -339,6 +361,7 @@ final class MemberBoundariesTest {
         due.is("six others", book.win(126, 0), 1);
         due.is("six and a SURE one", book.win(254, 0), 1);
         due.is("six and a SURE one, coin", book.win(254, 1), 1);
+        due.is("seven, asked behind six", book.win(127, 0), -1);
     }
 
     static void promise26_sureOnesAreLeftOutOfThePlaces(Due due) {

@@ -280,6 +280,7 @@ final class TextBoundariesTest {
         Texts.tell(book, "thing x until 0;member y;");
         due.is("rows(-1) then", book.rows(-1), 2);
         due.is("rows(2)", book.rows(2), -1);
+        due.is("count(6)", book.count(6), 2);
         due.is("fits(9)", book.fits(9), -1);
         due.is("told(2)", book.told(2), 0);
         due.is("told(102)", book.told(102), -1);
@@ -394,6 +395,14 @@ final class TextBoundariesTest {
         due.is("they are told apart by the first and the last letter",
             Texts.fault("thing abcdefgh;thing bbcdefgh;thing abcdefgg;bars bbcdefgh abcdefgg;"), -1);
         due.is("and found again", Texts.fault("thing abcdefgh;thing abcdefgh;"), 21);
+    }
+
+    static void promise04_namesOfLikeLettersAreOthers(Due due) {
+        due.is("one letter more ahead", Texts.fault("thing p;thing ap;thing z;thing az;thing aaz;"), -1);
+        due.is("one letter more behind", Texts.fault("member a;member aa;member az;member aza;"), -1);
+        due.is("the other way round", Texts.fault("member ab;member ba;member ob;member bo;"), -1);
+        due.is("parts of words, and words with more", Texts.fault("thing th;thing thin;thing things;thing n;thing no;"),
+            -1);
     }
 
     static void promise04_aNameOfNineLetters(Due due) {
@@ -665,6 +674,17 @@ final class TextBoundariesTest {
         due.is("told(108)", book.told(108), 0);
         due.is("told(109)", book.told(109), 7);
         due.is("told(110)", book.told(110), -1);
+    }
+
+    static void promise05_numberedFrom0OnAsTold(Due due) {
+        BettingBook book = Texts.book("member x;thing a until 1;member y;bet y 1 to 2 x that a comes;thing b until 2;"
+            + "member z;bet z 3 to 4 y that b comes;");
+        due.is("until of THING 0", book.told(101), 1);
+        due.is("until of THING 1", book.told(103), 2);
+        due.is("MEMBER of side 0 of WAGER 0", book.wager(0, 0), 1);
+        due.is("MEMBER of side 1 of WAGER 0", book.wager(0, 1), 0);
+        due.is("MEMBER of side 0 of WAGER 1", book.wager(1, 0), 2);
+        due.is("COIN of side 1 of WAGER 1", book.wager(1, 3), 4);
     }
 
     static void promise05_fromAndUntil(Due due) {

@@ -603,6 +603,15 @@ final class WagerBoundariesTest {
         due.is("lost twice", book.pays(0, 0), -1998);
     }
 
+    static void promise14_theTwelfth(Due due) {
+        BettingBook book = Texts.book(ONE.replace("bet", (EVEN + "r comes;").repeat(11) + "bet") + "thing s;");
+        int[] coins = {-2, 0, 6, 3, 3, -2, -2, -2, -2};
+        for (int code = 0; code < coins.length; code++) {
+            due.is("pays(11, " + code + ")", book.pays(11, code), coins[code]);
+        }
+        due.is("a thirteenth", book.pays(12, 0), NO_COIN);
+    }
+
     /** What a wager pays in the ROW in which a comes on a DAY and b never. */
     private static int pays(String claims, int day) {
         return Texts.book(TWO + BET + claims + ";").pays(0, row(day, -1));
