@@ -920,6 +920,13 @@ final class WagerBoundariesTest {
         due.is("with a on 1: b by 3 or on 4", book.latest(0), 3);
     }
 
+    static void promise18_aLesserBookBehindAGreaterOne(Due due) {
+        BettingBook book = Texts.book(TWO + EVEN + "a by 3 and b by 4;");
+        due.is("of two THINGS", book.latest(0), 4);
+        Texts.tell(book, "thing a;member x;member y;" + EVEN + "a by 2;");
+        due.is("of one", book.latest(0), 2);
+    }
+
     // Promise 19: hang
 
     static void promise19_noneAndAll(Due due) {
